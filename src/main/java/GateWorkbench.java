@@ -58,7 +58,7 @@ public final class GateWorkbench {
     }
 
     public boolean change(int net, int kind, int x, int y, int z) {
-        if (!isNet(net) || isSource(net) || kind == INPUT || kind == REGISTER) {
+        if (!isNet(net) || isSourceKind(kinds[net]) || isSourceKind(kind)) {
             return false;
         }
         if (!fits(kind, x, y, z, net)) {
@@ -157,7 +157,7 @@ public final class GateWorkbench {
         }
         int place = 0;
         for (int n = 0; n < source; n++) {
-            if (isSource(n)) {
+            if (isSourceKind(kinds[n])) {
                 place++;
             }
         }
@@ -237,6 +237,7 @@ public final class GateWorkbench {
     }
 
     public int configurations() {
+        fillGoes();
         findComing();
         int bound = 1 << registers;
         int found = 0;
@@ -252,6 +253,7 @@ public final class GateWorkbench {
         if (!isConfiguration(configuration)) {
             return REFUSED;
         }
+        fillGoes();
         findComing();
         return comesAt[configuration];
     }
@@ -260,6 +262,7 @@ public final class GateWorkbench {
         if (!isNet(net)) {
             return REFUSED;
         }
+        fillGoes();
         findComing();
         fillShows(net);
         int inputs = sources - registers;
@@ -278,7 +281,9 @@ public final class GateWorkbench {
         if (!isNet(net) || !isConfiguration(c) || !isConfiguration(d)) {
             return REFUSED;
         }
-        findApart(net);
+        fillGoes();
+        fillShows(net);
+        findApart();
         return apartAt[pairOf(c, d)];
     }
 
@@ -286,7 +291,9 @@ public final class GateWorkbench {
         if (!isNet(net)) {
             return REFUSED;
         }
-        findApart(net);
+        fillGoes();
+        fillShows(net);
+        findApart();
         int bound = 1 << registers;
         int found = 0;
         for (int c = 0; c < bound; c++) {
@@ -308,7 +315,11 @@ public final class GateWorkbench {
     }
 
     private boolean isSource(int net) {
-        return isNet(net) && (kinds[net] == INPUT || kinds[net] == REGISTER);
+        return isNet(net) && isSourceKind(kinds[net]);
+    }
+
+    private static boolean isSourceKind(int kind) {
+        return kind == INPUT || kind == REGISTER;
     }
 
     private boolean isConfiguration(int configuration) {
@@ -353,7 +364,7 @@ public final class GateWorkbench {
     }
 
     private void countSource(int kind, int more) {
-        if (kind == INPUT || kind == REGISTER) {
+        if (isSourceKind(kind)) {
             sources += more;
         }
         if (kind == REGISTER) {
@@ -371,7 +382,7 @@ public final class GateWorkbench {
         int place = 0;
         for (int n = 0; n < nets; n++) {
             int bit;
-            if (kinds[n] == INPUT || kinds[n] == REGISTER) {
+            if (isSourceKind(kinds[n])) {
                 bit = bitAt(assignment, place);
                 place++;
             } else {
@@ -410,7 +421,7 @@ public final class GateWorkbench {
         int assignment = 0;
         int place = 0;
         for (int n = 0; n < nets; n++) {
-            if (isSource(n)) {
+            if (isSourceKind(kinds[n])) {
                 assignment |= held[n] << place;
                 place++;
             }
@@ -421,7 +432,7 @@ public final class GateWorkbench {
     private void hold(int assignment) {
         int place = 0;
         for (int n = 0; n < nets; n++) {
-            if (isSource(n)) {
+            if (isSourceKind(kinds[n])) {
                 held[n] = bitAt(assignment, place);
                 place++;
             }
@@ -433,7 +444,7 @@ public final class GateWorkbench {
         int after = 0;
         int place = 0;
         for (int n = 0; n < nets; n++) {
-            if (isSource(n)) {
+            if (isSourceKind(kinds[n])) {
                 after |= bitAt(values, nexts[n]) << place;
                 place++;
             }
@@ -451,7 +462,7 @@ public final class GateWorkbench {
         int place = 0;
         int pickedPlace = 0;
         for (int n = 0; n < nets; n++) {
-            if (isSource(n)) {
+            if (isSourceKind(kinds[n])) {
                 if (kinds[n] == kind) {
                     picked |= bitAt(assignment, place) << pickedPlace;
                     pickedPlace++;
@@ -552,7 +563,7 @@ public final class GateWorkbench {
 
     // Tries every SET of at most k lower nets; a member told twice makes a smaller SET.
     private int levelFromLower(int net, int k) {
-        if (kinds[net] == INPUT || kinds[net] == REGISTER || kinds[net] == CONSTANT) {
+        if (isSourceKind(kinds[net]) || kinds[net] == CONSTANT) {
             return 0;
         }
         if (isBetween(0, net)) {
@@ -593,7 +604,7 @@ public final class GateWorkbench {
         int open = operandSets[net] & ~set;
         for (int n = net - 1; n >= 0; n--) {
             if (bitAt(open, n) == 1) {
-                if (kinds[n] == INPUT || kinds[n] == REGISTER) {
+                if (isSourceKind(kinds[n])) {
                     return false;
                 }
                 open |= operandSets[n] & ~set;
@@ -647,7 +658,6 @@ public final class GateWorkbench {
     }
 
     private void findComing() {
-        fillGoes();
         int bound = 1 << registers;
         for (int c = 0; c < bound; c++) {
             comesAt[c] = NONE;
@@ -677,9 +687,7 @@ public final class GateWorkbench {
         return c * MAX_CONFIGURATIONS + d;
     }
 
-    private void findApart(int net) {
-        fillGoes();
-        fillShows(net);
+    private void findApart() {
         int bound = 1 << registers;
         for (int c = 0; c < bound; c++) {
             for (int d = 0; d < bound; d++) {
