@@ -34,7 +34,7 @@ public final class ModelTest {
         due.end();
     }
 
-    /** From 0 to below the bound; a made-up row of numbers that is the same in every run. */
+    /** From 0 to below the bound; the row of numbers is the same each time the test runs. */
     private int pick(int bound) {
         seed = seed * 6364136223846793005L + 1442695040888963407L;
         return (int) ((seed >>> 33) % bound);

@@ -34,6 +34,7 @@ public final class PromisesTest {
         alarm();
         apart();
         classes();
+        longest();
         order();
         independence();
         wrongNetsEverywhere();
@@ -60,6 +61,42 @@ public final class PromisesTest {
         w.next(2, 6);
         w.next(3, 8);
         return w;
+    }
+
+    /** Six registers, nets 0 .. 5, that count up; net 16 is 1 when all are, and then holds them. */
+    private static GateWorkbench holdingCounter() {
+        GateWorkbench w = with(1, 1, 1, 1, 1, 1, NOT);
+        int carry = 0;
+        for (int n = 1; n < 6; n++) {
+            w.add(XOR, n, carry, 0);
+            carry = w.add(AND, n, carry, 0);
+        }
+        for (int n = 0; n < 6; n++) {
+            w.next(n, w.add(OR, n == 0 ? 6 : 5 + 2 * n, carry, 0));
+        }
+        return w;
+    }
+
+    private static void longest() {
+        GateWorkbench w = holdingCounter();
+        due.is("16: 63 ticks of tail", w.cycle(0), 63);
+        due.is("16: then it stands", w.cycle(1), 1);
+        due.is("17: all 64", w.configurations(), 64);
+        due.is("18: 63 ticks", w.soonest(63), 63);
+        due.is("18: no such among 64", w.soonest(64), REFUSED);
+        due.is("19: 63 ticks", w.alarm(16), 63);
+        due.is("20: 62 ticks", w.apart(16, 0, 1), 62);
+        due.is("20: 1 tick", w.apart(16, 62, 61), 1);
+        due.is("21: all 64", w.classes(16), 64);
+        due.is("15: within the tail", w.tick(62), 62);
+        due.is("15: beyond the tail", w.tick(MAX), 63);
+        for (int n = 0; n < 6; n++) {
+            w.next(n, n == 0 ? 6 : 5 + 2 * n);
+        }
+        due.is("16: no tail", w.cycle(0), 0);
+        due.is("16: a cycle of 64", w.cycle(1), 64);
+        due.is("15: round and round", w.tick(MAX), 62);
+        due.is("20: round", w.apart(16, 0, 1), 62);
     }
 
     private static void newObject() {
@@ -347,10 +384,15 @@ public final class PromisesTest {
         due.is("10: with itself", w.same(2, 2), true);
         due.is("10: its NOT", w.same(2, 5), false);
         due.is("10: two inputs with the same value now", w.same(0, 1), false);
-        due.is("10: a is no net", w.same(7, 0), false);
-        due.is("10: b is no net", w.same(0, 7), false);
+        w.add(OR, 0, 1, 0);
+        w.add(CONSTANT, 1, 0, 0);
+        w.add(CONSTANT, 0, 0, 0);
+        due.is("10: they differ with assignment 0 alone", w.same(7, 8), false);
+        due.is("10: they differ with assignment 3 alone", w.same(2, 9), false);
+        due.is("10: a is no net", w.same(10, 0), false);
+        due.is("10: b is no net", w.same(0, 10), false);
         due.is("10: both are none", w.same(-1, -1), false);
-        due.is("10: both are none, above", w.same(7, 7), false);
+        due.is("10: both are none, above", w.same(10, 10), false);
     }
 
     private static void depends() {
@@ -619,19 +661,6 @@ public final class PromisesTest {
         due.is("18: other values for each tick", v.soonest(5), 3);
         due.is("18: one tick", v.soonest(1), 1);
         due.is("18: two ticks", v.soonest(2), 2);
-
-        GateWorkbench u = with(1, 1, 1, 1, 1, 1);
-        u.add(NOT, 0, 0, 0);
-        u.next(0, 6);
-        int carry = 0;
-        for (int n = 1; n < 6; n++) {
-            int sum = u.add(XOR, n, carry, 0);
-            u.next(n, sum);
-            carry = u.add(AND, n, carry, 0);
-        }
-        due.is("18: 63 ticks", u.soonest(63), 63);
-        due.is("18: 64 configurations", u.configurations(), 64);
-        due.is("18: no such among 64", u.soonest(64), REFUSED);
     }
 
     private static void alarm() {
