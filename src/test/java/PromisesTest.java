@@ -1,10 +1,5 @@
 /** A section for each promise of the document: ordinary inputs, the edges, wrong inputs. */
-public final class PromisesTest {
-    private static final int INPUT = 0, REGISTER = 1, CONSTANT = 2, NOT = 3;
-    private static final int AND = 4, OR = 5, XOR = 6, MUX = 7;
-    private static final int REFUSED = GateWorkbench.REFUSED, FULL = GateWorkbench.FULL;
-    private static final int MIN = Integer.MIN_VALUE, MAX = Integer.MAX_VALUE;
-
+public final class PromisesTest extends Bench {
     private static final Due due = new Due();
 
     public static void main(String[] args) {
@@ -39,42 +34,6 @@ public final class PromisesTest {
         independence();
         wrongNetsEverywhere();
         due.end();
-    }
-
-    private static GateWorkbench with(int... kinds) {
-        GateWorkbench w = new GateWorkbench();
-        for (int kind : kinds) {
-            w.add(kind, 0, 0, 0);
-        }
-        return w;
-    }
-
-    /** Three registers that count up while input 0 is 1: nets 1, 2, 3; the last net is 8. */
-    private static GateWorkbench counter() {
-        GateWorkbench w = with(INPUT, REGISTER, REGISTER, REGISTER);
-        w.add(XOR, 0, 1, 0);
-        w.add(AND, 0, 1, 0);
-        w.add(XOR, 5, 2, 0);
-        w.add(AND, 5, 2, 0);
-        w.add(XOR, 7, 3, 0);
-        w.next(1, 4);
-        w.next(2, 6);
-        w.next(3, 8);
-        return w;
-    }
-
-    /** Six registers, nets 0 .. 5, that count up; net 16 is 1 when all are, and then holds them. */
-    private static GateWorkbench holdingCounter() {
-        GateWorkbench w = with(1, 1, 1, 1, 1, 1, NOT);
-        int carry = 0;
-        for (int n = 1; n < 6; n++) {
-            w.add(XOR, n, carry, 0);
-            carry = w.add(AND, n, carry, 0);
-        }
-        for (int n = 0; n < 6; n++) {
-            w.next(n, w.add(OR, n == 0 ? 6 : 5 + 2 * n, carry, 0));
-        }
-        return w;
     }
 
     private static void longest() {
