@@ -3,6 +3,7 @@ import java.util.function.ToLongFunction;
 /** The boundaries that the sections 'What it is' and 'Terms' name, a test for each sentence. */
 public final class TermsEdgesTest extends Edges {
     public static void main(String[] args) {
+        constants();
         at512Calls();
         anyNumberOfTicks();
         numbersOfNets();
@@ -22,12 +23,22 @@ public final class TermsEdgesTest extends Edges {
         leastLevelFromOne();
         setOfAtMostK();
         membersBelow();
+        membersBelowInAnyOrder();
         memberOtherThanIt();
         emptySet();
+        noChainsThroughConstants();
         noSuchLevel();
         numbersOfConfigurations();
         canCome();
         end();
+    }
+
+    private static void constants() {
+        sentence("The public face", "public static final int REFUSED = -1, FULL = -2;");
+        is("REFUSED", GateWorkbench.REFUSED, -1);
+        is("FULL", GateWorkbench.FULL, -2);
+        is("a refused call", new GateWorkbench().drop(), -1);
+        is("a call that finds no room", full().add(INPUT, 0, 0, 0), -2);
     }
 
     private static void at512Calls() {
@@ -350,6 +361,22 @@ public final class TermsEdgesTest extends Edges {
         is("MUX has none for 2", w.level(8, 2), REFUSED);
         is("MUX and an input are no SET then", w.level(9, 2), REFUSED);
         is("for 3 they are", w.level(9, 3), 2);
+        w.add(NOT, 3, 0, 0);
+        is("one that has none beside it is no hindrance", w.level(10, 2), 1);
+    }
+
+    /** Here the nets with the greater numbers have the lower levels. */
+    private static void membersBelowInAnyOrder() {
+        sentence("Terms", "all of levels below l");
+        GateWorkbench w = with(INPUT, INPUT, AND, INPUT, OR, INPUT, MUX, INPUT, INPUT, MUX);
+        w.change(2, AND, 0, 1, 0);
+        w.change(4, OR, 2, 3, 0);
+        w.change(6, MUX, 3, 2, 5);
+        w.change(9, MUX, 7, 6, 8);
+        is("a gate and a later input, 2", w.level(4, 2), 2);
+        is("a gate and a later input, 3", w.level(4, 3), 1);
+        is("a gate and two later inputs, 3", w.level(6, 3), 2);
+        is("and two more, 3", w.level(9, 3), 3);
     }
 
     private static void memberOtherThanIt() {
@@ -386,6 +413,24 @@ public final class TermsEdgesTest extends Edges {
         GateWorkbench v = with(CONSTANT, NOT);
         v.add(OR, 0, 1, 0);
         is("no sources at all", v.level(2, 1), 1);
+    }
+
+    /** The x of a constant is a value; it must not pass for the net with that number. */
+    private static void noChainsThroughConstants() {
+        sentence("Terms", "(the empty SET, if there are no chains)");
+        GateWorkbench w = with(INPUT, INPUT, INPUT, CONSTANT);
+        w.add(CONSTANT, 1, 0, 0);
+        w.add(AND, 3, 2, 0);
+        w.add(AND, 4, 2, 0);
+        w.add(MUX, 3, 4, 2);
+        w.add(XOR, 3, 4, 0);
+        for (int n = 5; n < 9; n++) {
+            is("net " + n + " has chains from input 2 at most", w.level(n, 1), 1);
+        }
+        w.change(5, CONSTANT, 0, 1, 2);
+        is("nor does one that was a gate lead on", w.level(5, 1), 0);
+        w.change(6, OR, 5, 2, 0);
+        is("nor what is made of it", w.level(6, 1), 1);
     }
 
     private static void noSuchLevel() {
