@@ -377,6 +377,10 @@ public final class TermsEdgesTest extends Edges {
         is("a gate and a later input, 3", w.level(4, 3), 1);
         is("a gate and two later inputs, 3", w.level(6, 3), 2);
         is("and two more, 3", w.level(9, 3), 3);
+        GateWorkbench v = with(INPUT, INPUT, INPUT, AND, INPUT, MUX);
+        v.change(3, AND, 1, 2, 0);
+        v.change(5, MUX, 0, 3, 4);
+        is("a gate between two inputs, 3", v.level(5, 3), 2);
     }
 
     private static void memberOtherThanIt() {
